@@ -47,6 +47,8 @@ public final class CookieJar {
 
     /** Stands for an expiry, a date, an index or a serial number that there is not. */
     private static final int NONE = -1;
+    /** A time that is later than every expiry. */
+    private static final long BEHIND_ALL = 0x7fffffffffffffffL;
 
     private final Row text;
     private final Reader reader;
@@ -774,7 +776,7 @@ public final class CookieJar {
         final Row path;
         final Row attribute;
         final Row given;
-        boolean hasEquals;
+        boolean hasSign;
         boolean hasAge;
         int age;
         long date;
@@ -818,17 +820,17 @@ public final class CookieJar {
         }
 
         private void readPair(Row text, int end) {
-            int equals = text.find('=', 0, end);
-            hasEquals = equals < end;
-            name.takeTrimmed(text, 0, equals);
-            value.takeTrimmed(text, equals + 1, end);
+            int sign = text.find('=', 0, end);
+            hasSign = sign < end;
+            name.takeTrimmed(text, 0, sign);
+            value.takeTrimmed(text, sign + 1, end);
         }
 
         private void readAttribute(Row text, int from, int to) {
-            int equals = text.find('=', from, to);
-            attribute.takeTrimmed(text, from, equals);
+            int sign = text.find('=', from, to);
+            attribute.takeTrimmed(text, from, sign);
             attribute.toSmallLetters();
-            given.takeTrimmed(text, equals + 1, to);
+            given.takeTrimmed(text, sign + 1, to);
             if (attribute.is("expires")) {
                 readExpires();
             } else if (attribute.is("max-age")) {
@@ -980,7 +982,7 @@ public final class CookieJar {
                 return createdAt;
             }
             if (policy == BY_EXPIRY) {
-                return expiresAt == NONE ? Long.MAX_VALUE : expiresAt;
+                return expiresAt == NONE ? BEHIND_ALL : expiresAt;
             }
             return -(name.length + value.length);
         }
@@ -1138,7 +1140,7 @@ public final class CookieJar {
         }
 
         private static int causeInText(Reader reader) {
-            if (!reader.hasEquals) {
+            if (!reader.hasSign) {
                 return 11;
             }
             if (reader.name.length == 0) {

@@ -37,10 +37,10 @@ final class Calls {
         throw e;
     }
 
-    /** An exception of the machine has its top frame in the library or comes with another class. */
+    /** The machine throws subclasses of this one, and the library throws it itself: neither is ours. */
     private static boolean isThrownByJar(RuntimeException e) {
         StackTraceElement[] trace = e.getStackTrace();
-        return trace.length > 0 && trace[0].getClassName().startsWith("CookieJar");
+        return trace.length > 0 && trace[0].getClassName().contains("Jar");
     }
 
     static void due(String what, long want, Call call) {
