@@ -387,7 +387,7 @@ public final class CookieJar {
             }
         }
 
-        void take(Row other) {
+        void copy(Row other) {
             take(other, 0, other.length);
         }
 
@@ -451,14 +451,14 @@ public final class CookieJar {
         }
 
         boolean sameTail(int from, Row other, int otherFrom) {
-            return compare(from, length, other, otherFrom, other.length) == 0;
+            return compareParts(from, length, other, otherFrom, other.length) == 0;
         }
 
         int compare(Row other) {
-            return compare(0, length, other, 0, other.length);
+            return compareParts(0, length, other, 0, other.length);
         }
 
-        int compare(int from, int to, Row other, int otherFrom, int otherTo) {
+        int compareParts(int from, int to, Row other, int otherFrom, int otherTo) {
             int common = Math.min(to - from, otherTo - otherFrom);
             for (int k = 0; k < common; k++) {
                 int order = Integer.compare(at(from + k), other.at(otherFrom + k));
@@ -483,7 +483,7 @@ public final class CookieJar {
         }
 
         boolean pathMatches(Row other) {
-            if (other.length > length || compare(0, other.length, other, 0, other.length) != 0) {
+            if (other.length > length || compareParts(0, other.length, other, 0, other.length) != 0) {
                 return false;
             }
             return other.length == length || other.at(other.length - 1) == '/' || at(other.length) == '/';
@@ -560,7 +560,7 @@ public final class CookieJar {
             for (int label = 0; label < MOST_DOMAIN && endA > 0 && endB > 0; label++) {
                 int fromA = labelStart(a, endA);
                 int fromB = labelStart(b, endB);
-                int order = a.compare(fromA, endA, b, fromB, endB);
+                int order = a.compareParts(fromA, endA, b, fromB, endB);
                 if (order != 0) {
                     return order;
                 }
@@ -595,7 +595,7 @@ public final class CookieJar {
 
         void append(Row domain) {
             if (size < MOST_SUFFIXES) {
-                rows[size].take(domain);
+                rows[size].copy(domain);
                 size++;
             }
         }
@@ -626,7 +626,7 @@ public final class CookieJar {
         void become(Suffixes other) {
             size = other.size;
             for (int i = 0; i < size; i++) {
-                rows[i].take(other.rows[i]);
+                rows[i].copy(other.rows[i]);
             }
         }
     }
@@ -689,8 +689,8 @@ public final class CookieJar {
         }
 
         void become(Address other) {
-            host.take(other.host);
-            path.take(other.path);
+            host.copy(other.host);
+            path.copy(other.path);
             open = other.open;
             https = other.https;
         }
@@ -893,7 +893,7 @@ public final class CookieJar {
 
         private void readPath() {
             if (given.at(0) == '/' && given.length <= MOST_PATH) {
-                path.take(given);
+                path.copy(given);
             }
         }
 
@@ -932,10 +932,10 @@ public final class CookieJar {
         }
 
         void become(Cookie other) {
-            name.take(other.name);
-            value.take(other.value);
-            domain.take(other.domain);
-            path.take(other.path);
+            name.copy(other.name);
+            value.copy(other.value);
+            domain.copy(other.domain);
+            path.copy(other.path);
             expiresAt = other.expiresAt;
             createdAt = other.createdAt;
             accessedAt = other.accessedAt;
@@ -948,7 +948,7 @@ public final class CookieJar {
         }
 
         /** The order of the list; 0 for cookies that are never in the jar together. */
-        int compare(Cookie other) {
+        int compareInList(Cookie other) {
             int order = Domains.compare(domain, other.domain);
             if (order == 0) {
                 order = path.compare(other.path);
@@ -1056,7 +1056,7 @@ public final class CookieJar {
             suffixes.become(other.suffixes);
             page.become(other.page);
             request.become(other.request);
-            header.take(other.header);
+            header.copy(other.header);
             for (int i = 0; i < LIMITS; i++) {
                 limits[i] = other.limits[i];
             }
@@ -1163,12 +1163,12 @@ public final class CookieJar {
         }
 
         private void shape(Reader reader) {
-            fresh.name.take(reader.name);
-            fresh.value.take(reader.value);
+            fresh.name.copy(reader.name);
+            fresh.value.copy(reader.value);
             fresh.hostOnly = reader.domain.length == 0 || suffixes.isPublic(reader.domain);
-            fresh.domain.take(fresh.hostOnly ? request.host : reader.domain);
+            fresh.domain.copy(fresh.hostOnly ? request.host : reader.domain);
             if (reader.path.length > 0) {
-                fresh.path.take(reader.path);
+                fresh.path.copy(reader.path);
             } else {
                 takeDefaultPath(fresh.path);
             }
@@ -1225,14 +1225,14 @@ public final class CookieJar {
         /** The index of the first cookie that does not come before the fresh one, or the size. */
         private int place() {
             int i = 0;
-            while (i < size && cookies[i].compare(fresh) < 0) {
+            while (i < size && cookies[i].compareInList(fresh) < 0) {
                 i++;
             }
             return i;
         }
 
         private boolean isAt(int place) {
-            return place < size && cookies[place].compare(fresh) == 0;
+            return place < size && cookies[place].compareInList(fresh) == 0;
         }
 
         void drop(int i) {

@@ -88,8 +88,10 @@ public final class ListTest {
 
     private static void orderOfDomains() {
         // "-" comes before "." by its code, but labels are compared as wholes
-        String[] hosts = {"a", "a.a", "b.a", "a.b.a", "a-.a", "a.a-.a", "aa.a", "z", "a.z", "a.0"};
-        String[] ordered = {"a.0", "a", "a.a", "a-.a", "a.a-.a", "aa.a", "b.a", "a.b.a", "z", "a.z"};
+        String[] hosts = {"a", "a.a", "b.a", "a.b.a", "a-.a", "a.a-.a", "aa.a", "z", "a.z", "a.0", "cd.x.z", "c.x.z",
+            "c.d.x.z", "c.d.xy.z"};
+        String[] ordered = {"a.0", "a", "a.a", "a-.a", "a.a-.a", "aa.a", "b.a", "a.b.a", "z", "a.z", "c.x.z", "cd.x.z",
+            "c.d.x.z", "c.d.xy.z"};
         CookieJar jar = new CookieJar();
         for (String host : hosts) {
             Calls.request(jar, "https://" + host);
@@ -153,6 +155,9 @@ public final class ListTest {
         firstFrom(jar, "b.d", 4);
         firstFrom(jar, "a.b.d", -1);
         firstFrom(jar, "e", -1);
+        jar.remove(5);
+        jar.remove(4);
+        firstFrom(jar, "b.d", -1);
         for (String text : new String[] {"", ".", "a.", "A", "a..b", "a b", "abcdefghijabcdefghijabcdefghijk"}) {
             firstFrom(jar, text, Calls.BAD_ARGUMENT);
         }
@@ -197,6 +202,8 @@ public final class ListTest {
         Calls.request(jar, "https://b");
         Calls.due("30 a public domain", 1, jar::clearSite);
         Calls.due("30 left", "c.b", Calls.domain(jar, 0));
+        Calls.request(jar, "https://a.d");
+        Calls.due("30 the last in the list", 1, jar::clearSite);
     }
 
     private static void endSession() {

@@ -91,10 +91,13 @@ public final class ReceiveTest {
         domain("a=1; Domain=a.b", "a.b", false);
         domain("a=1; Domain=.a.b", "a.b", false);
         domain("a=1; dOmAiN = A.B ", "a.b", false);
+        domain("a=1; DOMAIN=X.A.B", "x.a.b", false);
         domain("a=1; Domain=", "x.a.b", true);
         domain("a=1; Domain", "x.a.b", true);
         domain("a=1; Domain=.", "x.a.b", true);
         domain("a=1; Domain=a.b; Domain=", "a.b", false);
+        CookieJar letters = Calls.jarAt("http://azmn.b");
+        Calls.due("9 all letters", 1, () -> Calls.receive(letters, "a=1; Domain=AZMN.B"));
         CookieJar jar = Calls.jarAt("http://co.uk");
         Calls.suffix(jar, "co.uk");
         Calls.due("9 public and the host", 1, () -> Calls.receive(jar, "a=1; Domain=.CO.UK"));
@@ -203,6 +206,12 @@ public final class ReceiveTest {
         expiry(4107456000L, "Expires=28 Feb 2100 00:00:00", 0);
         expiry(4107455999L, "Expires=28 Feb 2100 00:00:00", 4107456000L);
         expiry(4107400000L, "Expires=01 Mar 2100 00:00:00", 4107542400L);
+        expiry(978300000, "Expires=01 Jan 2001 00:00:00", 978307200);
+        expiry(4133900000L, "Expires=01 Jan 2101 00:00:00", 4133980800L);
+        expiry(13569460000L, "Expires=01 Jan 2400 00:00:00", 13569465600L);
+        expiry(13601080000L, "Expires=01 Jan 2401 00:00:00", 13601088000L);
+        expiry(63000000, "Expires=01 Jan 1972 00:00:00", 63072000);
+        expiry(94600000, "Expires=01 Jan 1973 00:00:00", 94694400);
         expiry(67900000, "Expires=29 Feb 1972 00:00:00", 68169600);
         String[] months = {"Jan", "Feb", "Mar", "Apr", "May", "Jun", "Jul", "Aug", "Sep", "Oct", "Nov", "Dec"};
         int[] firsts = {0, 31, 59, 90, 120, 151, 181, 212, 243, 273, 304, 334};
@@ -348,6 +357,11 @@ public final class ReceiveTest {
         rejected(jar, "s=2; Path=/p", false, 32);
         Calls.request(jar, "https://a.b/");
         taken(jar, "s=2; Path=/p", false, 1);
+        CookieJar last = Calls.jarAt("https://a.b/");
+        taken(last, "s=1; Secure", false, 1);
+        last.remove(0);
+        Calls.request(last, "http://a.b/");
+        taken(last, "s=1", false, 1);
     }
 
     private static void causesOfPrefixes() {

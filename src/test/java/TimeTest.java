@@ -48,6 +48,10 @@ public final class TimeTest {
         Calls.due("34 the earliest", 20, jar::nextExpiry);
         jar.advance(25);
         Calls.due("34 the next", 30, jar::nextExpiry);
+        Calls.receive(jar, "a=1; Max-Age=2");
+        Calls.due("34 the first in the list", 27, jar::nextExpiry);
+        Calls.receive(jar, "z=1; Max-Age=1");
+        Calls.due("34 the last in the list", 26, jar::nextExpiry);
     }
 
     private static void setLimit() {
@@ -269,6 +273,19 @@ public final class TimeTest {
         Calls.due("40 suffixes too", 2, () -> Calls.suffix(jar, "uk"));
         Calls.due("40 serial numbers too", 1, () -> Calls.receive(jar, "c=1"));
         Calls.due("22 the third one", 2, () -> jar.serial(jar.cookies() - 1));
+
+        CookieJar other = Calls.jarAt("https://x.a.co.uk");
+        other.save(0);
+        Calls.suffix(other, "co.uk");
+        Calls.suffix(other, "b.uk");
+        other.save(1);
+        other.restore(0);
+        Calls.suffix(other, "x.a.co.uk");
+        Calls.suffix(other, "y.uk");
+        Calls.due("7 by another suffix", "x.a.co.uk", Calls.site(other));
+        other.restore(1);
+        Calls.due("40 the suffixes that were kept", "a.co.uk", Calls.site(other));
+        Calls.due("40 all of them", Calls.BAD_ARGUMENT, () -> Calls.suffix(other, "b.uk"));
 
         CookieJar empty = new CookieJar();
         empty.save(0);
