@@ -447,7 +447,7 @@ public final class CookieJar {
         }
 
         boolean same(Row other) {
-            return sameTail(0, other, 0);
+            return compareParts(0, length, other, 0, other.length) == 0;
         }
 
         boolean sameTail(int from, Row other, int otherFrom) {
