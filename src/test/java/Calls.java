@@ -7,6 +7,8 @@ final class Calls {
 
     private static int wrong = 0;
     private static int checks = 0;
+    /** Stands before what is told of a wrong answer. */
+    private static String sentence = "";
 
     /** A call whose answer is a number; a boolean counts 1 or 0. */
     interface Call {
@@ -43,12 +45,17 @@ final class Calls {
         return trace.length > 0 && trace[0].getClassName().contains("Jar");
     }
 
+    /** Names the sentence of the document that the answers behind this call are due by. */
+    static void sentence(String quoted) {
+        sentence = "\"" + quoted + "\" ";
+    }
+
     static void due(String what, long want, Call call) {
         long got = answer(call);
         checks++;
         if (got != want) {
             wrong++;
-            System.out.println(what + ": answered " + got + ", due is " + want);
+            System.out.println(sentence + what + ": answered " + got + ", due is " + want);
         }
     }
 
@@ -60,7 +67,7 @@ final class Calls {
         checks++;
         if (!want.equals(got)) {
             wrong++;
-            System.out.println(what + ": answered \"" + got + "\", due is \"" + want + "\"");
+            System.out.println(sentence + what + ": answered \"" + got + "\", due is \"" + want + "\"");
         }
     }
 
@@ -96,6 +103,12 @@ final class Calls {
         return jar.addSuffix();
     }
 
+    static int firstFrom(CookieJar jar, String domain) {
+        jar.clearText();
+        type(jar, domain);
+        return jar.firstFrom();
+    }
+
     static int receive(CookieJar jar, String cookie) {
         return receive(jar, cookie, false);
     }
@@ -104,6 +117,13 @@ final class Calls {
         jar.clearText();
         type(jar, cookie);
         return jar.receive(script);
+    }
+
+    /** Lets more time pass than one call can. */
+    static void advanceTo(CookieJar jar, long time) {
+        for (long left = time - jar.time(); left > 0; left = time - jar.time()) {
+            jar.advance((int) Math.min(left, Integer.MAX_VALUE));
+        }
     }
 
     /** A new jar with a request. */
