@@ -151,7 +151,7 @@ public final class CookieJar {
 
     public int send(boolean navigation, boolean script) throws IllegalStateException {
         needRequest();
-        return jar.writeHeader(navigation, script);
+        return jar.writeHeader(jar.isCrossSite(), navigation, script);
     }
 
     public int headerChar(int k) throws IndexOutOfBoundsException {
@@ -443,7 +443,7 @@ public final class CookieJar {
         }
 
         boolean is(String word) {
-            return length == word.length() && begins(word);
+            return length == word.length() && agreement(word) == length;
         }
 
         boolean same(Row other) {
@@ -1318,8 +1318,7 @@ public final class CookieJar {
             return !crossSite || cookie.siteRule == SAME_SITE_NONE || cookie.siteRule == SAME_SITE_LAX && navigation;
         }
 
-        int writeHeader(boolean navigation, boolean script) {
-            boolean crossSite = isCrossSite();
+        int writeHeader(boolean crossSite, boolean navigation, boolean script) {
             int sent = 0;
             for (int i = 0; i < size; i++) {
                 if (goes(cookies[i], crossSite, navigation, script)) {

@@ -282,39 +282,50 @@ public final class CausesEdgesTest {
         due(gone, "h=2", true, 1, 0);
     }
 
-    private static void firstCauseCounts() {
-        Calls.sentence("The cookie is rejected for the first of these causes that applies");
+    /** A jar that gives the later causes reason to apply, where an earlier one does not. */
+    private static CookieJar guardedJar(String address) {
         CookieJar jar = Calls.jarAt("https://x.a.b");
         created(jar, "s=1;Secure;HttpOnly");
         created(jar, "__Secure-s=1;Secure;HttpOnly");
         created(jar, "__Host-s=1;Secure;HttpOnly");
+        Calls.request(jar, address);
+        return jar;
+    }
+
+    private static void first(String address, String cookie, int cause) {
+        due(guardedJar(address), cookie, true, 0, cause);
+    }
+
+    private static void firstCauseCounts() {
+        Calls.sentence("The cookie is rejected for the first of these causes that applies");
         String tooLong = "a=" + THIRTY_TWO + "x";
-        due(jar, "a;Domain=b;HttpOnly;SameSite=None", true, 0, 11);
-        due(jar, "=" + THIRTY_TWO + "x;Domain=b", true, 0, 12);
-        due(jar, tooLong + ";Domain=b", true, 0, 13);
-        due(jar, tooLong + ";Domain=c.d", true, 0, 13);
-        due(jar, "s=1;HttpOnly;SameSite=None", true, 0, 61);
-        due(jar, "s=1;HttpOnly", true, 0, 61);
-        due(jar, "__Secure-s=1;SameSite=None", true, 0, 51);
-        due(jar, "__Host-s=1;SameSite=None", true, 0, 51);
-        due(jar, "s=1;SameSite=None", true, 0, 51);
-        due(jar, "__Secure-s=1", true, 0, 41);
-        due(jar, "__Host-s=1", true, 0, 42);
-        due(jar, "s=1", true, 0, 62);
-        Calls.request(jar, "http://x.a.b");
-        due(jar, tooLong + ";Secure", true, 0, 13);
-        due(jar, "s=1;Domain=b;Secure;HttpOnly", true, 0, 21);
-        due(jar, "s=1;Domain=c.d;Secure;HttpOnly", true, 0, 22);
-        due(jar, "s=1;Domain=b;HttpOnly", true, 0, 21);
-        due(jar, "s=1;Secure;HttpOnly", true, 0, 31);
-        due(jar, "__Host-s=1;Secure;Path=/x", true, 0, 31);
-        due(jar, "s=1;Secure", true, 0, 31);
-        due(jar, "s=1;HttpOnly", true, 0, 61);
-        due(jar, "__Secure-s=1;HttpOnly", true, 0, 61);
-        due(jar, "s=1;SameSite=None", true, 0, 32);
-        due(jar, "__Secure-s=1", true, 0, 32);
-        due(jar, "__Host-s=1", true, 0, 32);
-        due(jar, "s=1", true, 0, 32);
+        String https = "https://x.a.b";
+        first(https, "a;Domain=b;HttpOnly;SameSite=None", 11);
+        first(https, "=" + THIRTY_TWO + "x;Domain=b", 12);
+        first(https, tooLong + ";Domain=b", 13);
+        first(https, tooLong + ";Domain=c.d", 13);
+        first(https, "s=1;HttpOnly;SameSite=None", 61);
+        first(https, "s=1;HttpOnly", 61);
+        first(https, "__Secure-s=1;SameSite=None", 51);
+        first(https, "__Host-s=1;SameSite=None", 51);
+        first(https, "s=1;SameSite=None", 51);
+        first(https, "__Secure-s=1", 41);
+        first(https, "__Host-s=1", 42);
+        first(https, "s=1", 62);
+        String http = "http://x.a.b";
+        first(http, tooLong + ";Secure", 13);
+        first(http, "s=1;Domain=b;Secure;HttpOnly", 21);
+        first(http, "s=1;Domain=c.d;Secure;HttpOnly", 22);
+        first(http, "s=1;Domain=b;HttpOnly", 21);
+        first(http, "s=1;Secure;HttpOnly", 31);
+        first(http, "__Host-s=1;Secure;Path=/x", 31);
+        first(http, "s=1;Secure", 31);
+        first(http, "s=1;HttpOnly", 61);
+        first(http, "__Secure-s=1;HttpOnly", 61);
+        first(http, "s=1;SameSite=None", 32);
+        first(http, "__Secure-s=1", 32);
+        first(http, "__Host-s=1", 32);
+        first(http, "s=1", 32);
     }
 
     private static void rejectedChangesNoCookie() {

@@ -220,6 +220,8 @@ public final class JarEdgesTest {
         }
         Calls.sentence("-1 if there is none");
         Calls.due("28 an empty jar", -1, () -> Calls.firstFrom(new CookieJar(), "a"));
+        jar.remove(3);
+        Calls.due("28 not one that is gone", -1, () -> Calls.firstFrom(jar, "c"));
         Calls.sentence("The text stays.");
         CookieJar again = jarOfHosts("b");
         Calls.due("28 once", 0, () -> Calls.firstFrom(again, "b"));
@@ -515,7 +517,24 @@ public final class JarEdgesTest {
         Calls.due("39 all are kept", 40, () -> forty.save(0));
         Calls.due("30 all go", 40, forty::clearSite);
         Calls.due("40 all are back", 40, () -> forty.restore(0));
+        Calls.due("31 all go", 40, forty::endSession);
+        Calls.due("40 all are back", 40, () -> forty.restore(0));
+        Calls.due("32 none goes", 0, () -> forty.advance(1));
         Calls.due("22 in order", 42, () -> forty.serial(39));
+        Calls.due("37 the victim of forty", 0, forty::victim);
+        Calls.due("28 the first of forty", 0, () -> Calls.firstFrom(forty, "a.b"));
+        Calls.due("29 the last of forty", 39, () -> forty.remove(39));
+        CookieJar aged = Calls.jarAt("http://a.b");
+        aged.setLimit(0, 40);
+        aged.setLimit(1, 40);
+        // no more of them can be received in 512 calls
+        for (char name = 'A'; name < 'A' + 34; name++) {
+            created(aged, name + "=;Max-Age=7");
+        }
+        Calls.due("34 of all", 7, aged::nextExpiry);
+        Calls.due("31 none of them", 0, aged::endSession);
+        Calls.due("32 none of them", 0, () -> aged.advance(6));
+        Calls.due("32 all of them", 34, () -> aged.advance(1));
         CookieJar site = Calls.jarAt("http://a.b");
         site.setLimit(1, 40);
         site.setLimit(0, 39);
@@ -582,6 +601,8 @@ public final class JarEdgesTest {
         Calls.due("37 accessed first", "b", Calls.name(jar, jar.victim()));
         jar.setPolicy(1);
         Calls.due("37 created first", "a", Calls.name(jar, jar.victim()));
+        created(jar, "0=long;Max-Age=1");
+        Calls.due("37 created first, though the smallest", "a", Calls.name(jar, jar.victim()));
         jar.advance(1);
         Calls.receive(jar, "a=1;Path=/");
         Calls.due("37 created first, though replaced", "a", Calls.name(jar, jar.victim()));

@@ -15,6 +15,7 @@ public final class SendEdgesTest {
         headerChars();
         accessTimes();
         fullJar();
+        noneThatIsGone();
         wouldSend();
         Calls.end();
     }
@@ -256,6 +257,26 @@ public final class SendEdgesTest {
         Calls.due("12 all of them", want.toString(), Calls.header(jar));
         Calls.due("13 the last one", true, jar.wouldSend(39, false, false));
         Calls.due("13 none behind it", Calls.BAD_INDEX, () -> jar.wouldSend(40, false, false) ? 1 : 0);
+    }
+
+    private static void noneThatIsGone() {
+        Calls.sentence("Returns the number of cookies that are sent.");
+        CookieJar jar = Calls.jarAt("http://a.b");
+        Calls.receive(jar, "a=1");
+        Calls.receive(jar, "b=1;Max-Age=5");
+        jar.remove(0);
+        Calls.due("11 not the removed one", 1, () -> jar.send(false, false));
+        Calls.due("12 not the removed one", "b=1", Calls.header(jar));
+        jar.advance(5);
+        Calls.due("11 nor one that ran out", 0, () -> jar.send(false, false));
+        Calls.receive(jar, "c=1");
+        Calls.receive(jar, "c=1;Max-Age=0");
+        Calls.due("11 nor one that was removed by an expired one", 0, () -> jar.send(false, false));
+        Calls.receive(jar, "d=1");
+        jar.setLimit(0, 1);
+        Calls.receive(jar, "e=1");
+        Calls.due("11 nor an evicted one", 1, () -> jar.send(false, false));
+        Calls.due("12 nor an evicted one", "e=1", Calls.header(jar));
     }
 
     private static void wouldSend() {

@@ -12,6 +12,7 @@ public final class SnapshotEdgesTest {
         restoreTheBeginning();
         restoreGoesOn();
         serialNumbersGoBack();
+        suffixesGoBack();
         fingerprintOfNone();
         fingerprintOfNumbers();
         fingerprintOfCookies();
@@ -243,6 +244,28 @@ public final class SnapshotEdgesTest {
         Calls.due("38 created", 2, () -> jar.count(0));
     }
 
+    /** Others have been in their places since. */
+    private static void suffixesGoBack() {
+        Calls.sentence("Makes everything that a snapshot keeps as it was.");
+        CookieJar jar = Calls.jarAt("http://y.x.a.b");
+        jar.save(0);
+        Calls.suffix(jar, "a.b");
+        Calls.suffix(jar, "c.d");
+        jar.save(1);
+        jar.restore(0);
+        Calls.due("40 none", "a.b", Calls.site(jar));
+        Calls.due("8 the first", 1, () -> Calls.suffix(jar, "e.f"));
+        Calls.due("8 the second", 2, () -> Calls.suffix(jar, "y.x.a.b"));
+        Calls.due("8 the third", 3, () -> Calls.suffix(jar, "c.d"));
+        Calls.due("7 by the second", "y.x.a.b", Calls.site(jar));
+        jar.restore(1);
+        Calls.due("40 by the first that was kept", "x.a.b", Calls.site(jar));
+        Calls.request(jar, "http://y.x.c.d");
+        Calls.due("40 by the second that was kept", "x.c.d", Calls.site(jar));
+        Calls.due("8 the others are none", 3, () -> Calls.suffix(jar, "e.f"));
+        Calls.due("8 the others are none", 4, () -> Calls.suffix(jar, "y.x.a.b"));
+    }
+
     private static long mix(long start, long... numbers) {
         long sum = start;
         for (long number : numbers) {
@@ -313,12 +336,12 @@ public final class SnapshotEdgesTest {
     private static void fingerprintOverflows() {
         Calls.sentence("in long arithmetic with overflow");
         CookieJar jar = Calls.jarAt("http://a.b");
-        Calls.advanceTo(jar, 1000000000000L);
-        long first = mix(23, 1000000000000L, 0, 0, 0, 0, 0, 0, 0);
+        Calls.advanceTo(jar, 200000000000L);
+        long first = mix(23, 200000000000L, 0, 0, 0, 0, 0, 0, 0);
         Calls.due("41 of a late time", first, jar::fingerprint);
         Calls.receive(jar, "sixteen-letters-=thirty-two-letters-is-the-most--;Max-Age=999999999");
-        long want = mixRow(mix(23, 1000000000000L), "sixteen-letters-thirty-two-letters-is-the-most--a.b/");
-        want = mix(want, 1000034560000L, 1000000000000L, 1000000000000L, 0);
+        long want = mixRow(mix(23, 200000000000L), "sixteen-letters-thirty-two-letters-is-the-most--a.b/");
+        want = mix(want, 200034560000L, 200000000000L, 200000000000L, 0);
         Calls.due("41 of a long cookie", mix(want, 1, 0, 0, 0, 0, 0, 0), jar::fingerprint);
         boolean negative = false;
         boolean positive = false;

@@ -127,9 +127,10 @@ public final class TextEdgesTest {
         String address = "https://a.b/?" + times("?", 147);
         Calls.due("2 the text is full", 160, () -> address.length());
         Calls.due("5 opened", 1, () -> Calls.request(jar, address));
-        Calls.due("5 not opened", -38, () -> Calls.request(jar, "http://" + times("a", 153)));
-        Calls.due("8 no domain", Calls.BAD_ARGUMENT, () -> Calls.suffix(jar, times("a", 160)));
-        Calls.due("28 no domain", Calls.BAD_ARGUMENT, () -> Calls.firstFrom(jar, times("a.", 80)));
+        CookieJar other = new CookieJar();
+        Calls.due("5 not opened", -38, () -> Calls.request(other, "http://" + times("a", 153)));
+        Calls.due("8 no domain", Calls.BAD_ARGUMENT, () -> Calls.suffix(other, times("a", 160)));
+        Calls.due("28 no domain", Calls.BAD_ARGUMENT, () -> Calls.firstFrom(other, times("a.", 80)));
     }
 
     private static void trimmed(String cookie, String name, String value) {
