@@ -654,21 +654,16 @@ public final class CookieJar {
                 return -1 - from;
             }
             int hostEnd = Domains.end(text, from);
-            boolean stopsHere = endsOrHas(text, hostEnd, '/') || endsOrHas(text, hostEnd, '?');
-            if (!stopsHere || !Domains.isWhole(text, from, hostEnd)) {
+            if (!Domains.isWhole(text, from, hostEnd)) {
                 return -1 - hostEnd;
             }
             int pathEnd = endOfPath(text, hostEnd);
-            if (!endsOrHas(text, pathEnd, '?')) {
+            if (pathEnd < text.length && text.at(pathEnd) != '?') {
                 return -1 - pathEnd;
             }
             fill(text, from, hostEnd, pathEnd);
             https = secured;
             return secured ? 1 : 0;
-        }
-
-        private static boolean endsOrHas(Row text, int k, char c) {
-            return k >= text.length || text.at(k) == c;
         }
 
         /** The index behind the path that begins at an index, which is this index if none does. */

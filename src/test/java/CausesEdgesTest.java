@@ -105,6 +105,8 @@ public final class CausesEdgesTest {
         created(jar, "c=1;Domain=a.b");
         Calls.suffix(jar, "q.r");
         rejected(jar, "a=1;Domain=q.r", 21);
+        Calls.suffix(jar, "x.a.b");
+        rejected(jar, "a=1;Domain=x.a.b", 21);
     }
 
     private static void cause22() {
@@ -156,6 +158,8 @@ public final class CausesEdgesTest {
         due(jarWith("https://a.b", "s=1", "http://a.b"), "s=2", false, 2, 0);
         rejected(jarWith("https://a.b", "s=1;Secure", "http://a.b"), "s=2;Max-Age=0", 32);
         due(jarWith("https://a.b", "s=1;Secure", "http://a.b"), "s=2", true, 0, 32);
+        rejected(jarWith("https://a.b", "s=1;Secure", "http://a.b"), "s=2;HttpOnly", 32);
+        rejected(jarWith("https://a.b", "s=1;Secure;HttpOnly", "http://a.b"), "s=2", 32);
         CookieJar gone = jarWith("https://a.b", "s=1;Secure;Max-Age=9", "http://a.b");
         gone.advance(8);
         rejected(gone, "s=2", 32);
@@ -174,8 +178,9 @@ public final class CausesEdgesTest {
 
     private static void cause32ByName() {
         Calls.sentence("with the same name");
-        for (String name : new String[] {"S", "s1", "as", "s s", "t"}) {
+        for (String name : new String[] {"S", "s1", "as", "s s", "t", "x.s", "s.x", "s/x", "x/s", "s/"}) {
             created(jarWith("https://a.b", "s=1;Secure", "http://a.b"), name + "=2");
+            created(jarWith("https://a.b", name + "=1;Secure", "http://a.b"), "s=2");
         }
         rejected(jarWith("https://a.b", "s=1;Secure", "http://a.b"), "  s  =2", 32);
     }

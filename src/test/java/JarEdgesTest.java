@@ -579,6 +579,8 @@ public final class JarEdgesTest {
         victim("0123", "b=1;Priority=Low", "a=1");
         victim("0123", "a=1;Secure;Priority=Low", "b=22;Max-Age=1");
         victim("0123", "a=1;Secure", "b=22;Max-Age=1;Priority=High");
+        victim("0123", "a=1;Priority=Low", "b=1;Secure;SameSite=None");
+        victim("0123", "a=1;Priority=Low;SameSite=Strict", "b=1");
     }
 
     private static void victimBySecure() {
@@ -606,6 +608,13 @@ public final class JarEdgesTest {
         jar.advance(1);
         Calls.receive(jar, "a=1;Path=/");
         Calls.due("37 created first, though replaced", "a", Calls.name(jar, jar.victim()));
+        CookieJar aged = jarWith("a=1;Max-Age=9");
+        aged.advance(1);
+        created(aged, "b=22;Max-Age=1");
+        aged.setPolicy(1);
+        Calls.due("37 created first, though it runs out later", 0, aged::victim);
+        aged.setPolicy(0);
+        Calls.due("37 accessed first, though it runs out later", 0, aged::victim);
         Calls.sentence("2 the earliest expiry, session cookies after all others");
         victim("2", "a=1;Max-Age=1", "b=1;Max-Age=2");
         victim("2", "b=1;Max-Age=1", "a=1;Max-Age=2");

@@ -48,7 +48,7 @@ public final class SnapshotEdgesTest {
         CookieJar jar = new CookieJar();
         Calls.suffix(jar, "co.uk");
         Calls.request(jar, "https://x.a.co.uk/p/q");
-        Calls.page(jar, "https://a.co.uk");
+        Calls.page(jar, "https://z.c.d");
         jar.setLimit(0, 3);
         jar.setLimit(1, 7);
         jar.setPolicy(3);

@@ -398,6 +398,13 @@ public final class TextEdgesTest {
         for (char c = 32; c <= 126; c++) {
             address("http://a/" + c, 0);
         }
+        // blanks are of the path, wherever they stand
+        CookieJar blank = Calls.jarAt("http://a.b/x /y ");
+        Calls.due("9 for a path with blanks", 1, () -> Calls.receive(blank, "a=1"));
+        Calls.due("18 up to the last slash", "/x ", Calls.path(blank, 0));
+        Calls.due("9 for one without", 1, () -> Calls.receive(blank, "b=1;Path=/x /y"));
+        Calls.due("11 only the first goes", 1, () -> blank.send(false, false));
+        Calls.due("12 only the first goes", "a=1", Calls.header(blank));
         CookieJar jar = Calls.jarAt("http://a.b" + FORTY);
         Calls.due("9 for all of the path", 1, () -> Calls.receive(jar, "a=1;Path=" + FORTY));
         Calls.due("11 goes", 1, () -> jar.send(false, false));
